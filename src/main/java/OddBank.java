@@ -427,7 +427,7 @@ public final class OddBank {
         static final int LEFT_MAY = 1, RIGHT_MAY = 2, FIRST = 4;
 
         private static final int[] MONTHS = {31, 28, 31, 30, 31, 30, 31, 31, 30, 31, 30, 31};
-        private static final int YEAR_DAYS = 365, FOUR_YEARS = 1461;
+        private static final int YEAR_DAYS = 365, LEAP_YEAR_FROM = 3 * YEAR_DAYS, FOUR_YEARS = 1461;
         private static final int MONTH_UNIT = 32;
         private static final int LEAP_DAY = 2 * MONTH_UNIT + 29;
 
@@ -435,7 +435,7 @@ public final class OddBank {
         }
 
         static int yearOf(int day) {
-            return day / FOUR_YEARS * 4 + yearOfFour(day);
+            return day / FOUR_YEARS * 4 + Math.min(day % FOUR_YEARS / YEAR_DAYS, 3);
         }
 
         static int monthOf(int day) {
@@ -457,16 +457,14 @@ public final class OddBank {
             return date == 1 ? bank | FIRST : bank;
         }
 
-        private static int yearOfFour(int day) {
-            return Math.min(day % FOUR_YEARS / YEAR_DAYS, 3);
-        }
-
+        // Of each four YEARS the last has the leap day, so the others are alike.
         private static int monthAndDate(int day) {
-            int year = yearOfFour(day);
-            int left = day % FOUR_YEARS - year * YEAR_DAYS;
+            int inFour = day % FOUR_YEARS;
+            boolean leap = inFour >= LEAP_YEAR_FROM;
+            int left = leap ? inFour - LEAP_YEAR_FROM : inFour % YEAR_DAYS;
             int month = 0;
             for (int i = 0; i < MONTHS.length; i++) {
-                int length = i == 1 && year == 3 ? MONTHS[i] + 1 : MONTHS[i];
+                int length = i == 1 && leap ? MONTHS[i] + 1 : MONTHS[i];
                 if (left < length) {
                     month = i;
                     break;
