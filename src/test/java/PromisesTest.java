@@ -400,6 +400,16 @@ public final class PromisesTest {
         due("for 2", x.best(2, 0), 2);
         due("nothing is left", x.best(5, 14), 7);
         due("ASKED 0, 0, 1, 1", x.best(5, 10), 0);
+        // On the 2nd the left cannot ANSWER 0, but the MUTE can ANSWER 1, for half of 1.
+        OddBank settles = river("ml9,pl9,mr9;015,021");
+        due("for 0", settles.best(2, 0), 0);
+        due("most are SETTLED", settles.best(2, 1), 1);
+        due("ahead of the first by numbers", settles.best(2, 10), 1);
+        due("it is ANSWERED", settles.best(2, 11), 1);
+        // On the 2nd only the MUTE can ASK, so the left does on the 1st.
+        OddBank asks = river("ml9,pl9,pl9;015,125");
+        due("most are ASKED", asks.best(2, 10), 1);
+        due("both", asks.best(2, 11), 0);
         OddBank late = river("pl0,ml0,pr9;019,212");
         // He forgets at once, so 9 less 1 by half is 4; ASKED on the 1st, ANSWERED on the 2nd.
         due("worth with MEMORY 0", late.best(2, 0), 4);
@@ -423,6 +433,11 @@ public final class PromisesTest {
         x.say(0);
         due("it is not OPEN", x.live(0), 0);
         due("so all stay", x.live(1), 1);
+        due("a twin on the first: all on the right", river("tr0,pr0;019").live(1), 3);
+        OddBank firsts = river("pl0,pr0;019");
+        pass(firsts, 30);
+        due("31st and first: all on the left", firsts.live(1), 0);
+        due("so that it is SETTLED", firsts.live(0), 1);
         // 0 and 1 ask one another: only one of two can be; the least of those that move fewest.
         OddBank y = river("pl0,pl0;015,105");
         due("one of two", y.live(0), 1);
@@ -577,6 +592,8 @@ public final class PromisesTest {
         due("image()", x.image(), 1);
         x.best(1, 0);
         long before = x.digest();
+        x.day();
+        due("SETTLED since", x.say(2), 2);
         x.change(0, 4, 8);
         x.change(1, 3, 2);
         x.cross(2);
@@ -584,7 +601,7 @@ public final class PromisesTest {
         x.open(1, 9);
         x.open(0, 3);
         x.forget();
-        x.see(1, 0, true);
+        x.see(1, 0, false);
         x.day();
         x.letter('p');
         promise = 22;
