@@ -935,6 +935,8 @@ public final class OddBank {
 
     /** YEARS by a SEED. */
     private static final class Course {
+        private static final long LAST_SEED = 2147483647L;
+
         private final int[] asked = new int[World.MOST_MATTERS];
         int worth;
         int settled;
@@ -966,7 +968,8 @@ public final class OddBank {
         }
 
         private int draw(int of) {
-            seed = (int) (1103515245L * seed + 12345L & Integer.MAX_VALUE);
+            // The rest by 2 to the 31 as a mask: none is below 0, so each DRAW names a MATTER.
+            seed = (int) ((1103515245L * seed + 12345L) & LAST_SEED);
             return of > 0 ? seed / 65536 % of : 0;
         }
     }

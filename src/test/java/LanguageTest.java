@@ -20,6 +20,8 @@ public final class LanguageTest {
         "int change(int,int,int)", "int best(int,int)", "int live(int)", "int fog(int,int,int,int)",
         "int see(int,int,boolean)", "int forget()", "int years(int,int,int)", "int image()", "int restore()",
         "int count(int)", "long digest()");
+    /** What the class takes of the library by a class's name: all of it stands in rule 4. */
+    private static final Set<String> LIBRARY = Set.of("Integer.bitCount", "Math.min", "Math.max", "System.arraycopy");
     private static final List<String> CONSTANTS = List.of("NONE", "UNKNOWN", "OUTSIDE", "STATE", "FULL");
 
     private static int wrong;
@@ -95,8 +97,36 @@ public final class LanguageTest {
         rule(11, fields <= 20, c + " has many fields");
     }
 
+    private static String withoutComments(String source) {
+        return source.replaceAll("(?s)/\\*.*?\\*/", "").replaceAll("//[^\n]*", "").replaceAll("\"[^\"]*\"", "\"\"");
+    }
+
+    /** The library by its classes' names, fields such as Integer.MAX_VALUE too, and what is called on a String. */
+    private static void checkLibrary(String code) {
+        Set<String> own = new HashSet<>();
+        for (Class<?> c : OddBank.class.getDeclaredClasses()) {
+            own.add(c.getSimpleName());
+        }
+        Matcher m = Pattern.compile("\\b([A-Z]\\w*)\\s*\\.\\s*(\\w+)").matcher(code);
+        while (m.find()) {
+            boolean isConstant = m.group(1).matches("[A-Z_]+");
+            boolean known = own.contains(m.group(1)) || LIBRARY.contains(m.group(1) + "." + m.group(2))
+                || isConstant && List.of("length", "indexOf").contains(m.group(2));
+            rule(4, known, m.group() + " is not in the list");
+        }
+    }
+
+    /** Rows are made with the object and used again: new stands in its constructor and at fields alone. */
+    private static void checkMade(String code) {
+        String rest = code.replaceAll("(?s)public OddBank\\(\\) \\{.*?\\}", "")
+            .replaceAll("(?m)^ +(private )?final [\\w\\[\\]]+ \\w+ = new [\\w\\[\\]().]+;$", "");
+        rule(12, !Pattern.compile("\\bnew\\b|\\bclone\\b|\\bcopyOf").matcher(rest).find(), "a call makes an object");
+    }
+
     private static void checkText(String source) {
-        String code = source.replaceAll("(?s)/\\*.*?\\*/", "").replaceAll("//[^\n]*", "").replaceAll("\"[^\"]*\"", "\"\"");
+        String code = withoutComments(source);
+        checkLibrary(code);
+        checkMade(code);
         for (String word : List.of("throw", "throws", "try", "catch", "finally", "synchronized", "assert", "package",
             "import", "static \\{", "System\\.(?!arraycopy)\\w+", "Random", "Thread", "native", "hashCode", "toString",
             "equals", "double", "float", "protected", "instanceof", "while")) {
